@@ -559,7 +559,7 @@ public final class LeftIsAgreedOn {
         if (!now.isOne(person) || !isWithin(n, 0, Search.MOST_DEEP)) {
             return refuse(BAD);
         }
-        return search.countReached(person, n, now.left);
+        return search.countReached(person, n);
     }
 
     // ---- votes
@@ -1183,12 +1183,11 @@ public final class LeftIsAgreedOn {
             return NONE;
         }
 
-        int countReached(int person, int deep, int left) {
+        int countReached(int person, int deep) {
             for (int cell = 0; cell < CELLS; cell++) {
                 isReached[cell] = false;
             }
             one.begin(person);
-            one.left = left;
             int nodes = isWithin(deep, 0, MOST_DEEP) ? NODES[deep] : 0;
             int count = 0;
             for (int node = 0; node < nodes; node++) {

@@ -45,6 +45,9 @@ public final class PromisesTest {
     due(promise, name + " n", call.by(x, 2, -1), BAD);
     due(promise, name + " n", call.by(x, 2, 41), BAD);
     due(promise, name + " n", call.by(x, 1, MAX), BAD);
+    due(promise, name + " n ahead of one of the people", call.by(x, 1, 41), BAD);
+    due(promise, name + " n ahead of nothing", call.by(x, 0, 41), BAD);
+    due(promise, name + " n ahead of nothing", call.by(x, 0, -1), BAD);
     due(promise, name + " one of the people", call.by(x, 1, 0), OTHER);
     due(promise, name + " one of the people", call.by(x, 1, 40), OTHER);
     due(promise, name + " nothing", call.by(x, 0, 0), NOTHING);
@@ -52,13 +55,13 @@ public final class PromisesTest {
     due(promise, name + " fewer elements", call.by(x, 2, 4), BAD);
     due(promise, name + " fewer elements", call.by(x, 3, 1), BAD);
     due(promise, name + " no sign", call.by(x, 2, 3), promise == 46 ? 2 : STUCK);
-    due(promise, name + " the counts", x.status(12), 8);
+    due(promise, name + " the counts", x.status(12), 11);
     due(promise, name + " the counts", x.status(13), 2);
     due(promise, name + " the counts", x.status(14), 2);
     due(promise, name + " the counts", x.status(15), promise == 46 ? 0 : 1);
     boolean fine = call.by(x, 2, 2) >= NONE && call.by(x, 3, 0) >= NONE;
     due(promise, name + " is taken", fine ? 1 : 0, 1);
-    due(promise, name + " the counts", x.status(12) + x.status(13) + x.status(14), 12);
+    due(promise, name + " the counts", x.status(12) + x.status(13) + x.status(14), 15);
   }
 
   private static void p1to8() {
@@ -81,6 +84,10 @@ public final class PromisesTest {
     x.set(0, 39, 5);
     x.row(0, 4, 40);
     due(2, "a new row's element", x.element(0, 39), 0);
+    for (int s = 1; s < 4; s++) { x.row(s, 3, 6); x.set(s, 0, 7); x.set(s, 5, 8); }
+    x.row(2, 3, 6);
+    due(2, "a new row's elements", x.element(2, 0) + x.element(2, 5), 0);
+    due(2, "the shelves beside it", x.element(1, 0) + x.element(1, 5) + x.element(3, 0) + x.element(3, 5), 30);
 
     long v = 0x123456789ABCDEF0L + 0x8F;
     long[] lowest = {(byte) v, (short) v, (int) v, v, 1};
@@ -123,6 +130,8 @@ public final class PromisesTest {
     due(4, "as they were", x.element(0, 0) * 10000 + x.element(0, 1) * 100 + x.element(0, 4), 101013);
     due(4, "back onto itself", x.copy(0, 0, 1, 0, 4), 4);
     due(4, "as they were", x.element(0, 0) * 10000 + x.element(0, 3) * 100 + x.element(0, 4), 101313);
+    due(4, "from another shelf", x.copy(1, 0, 1, 0, 2), 2);
+    due(4, "element", x.element(0, 0) * 10000 + x.element(0, 1) * 100 + x.element(0, 2), 121312);
     due(4, "none at the ends", x.copy(0, 1, 5, 3, 0), 0);
     due(4, "none behind the end", x.copy(0, 1, 6, 3, 0), BAD);
     due(4, "none behind the other's end", x.copy(0, 1, 5, 4, 0), BAD);
@@ -285,6 +294,8 @@ public final class PromisesTest {
     due(15, "feed(0)", x.feed(0), FULL);
     due(15, "feed(256)", x.feed(256), BAD);
     due(15, "status(8)", x.status(8), 250);
+    due(15, "feed(255)", new LeftIsAgreedOn().feed(255), 1);
+    due(15, "feed(0)", new LeftIsAgreedOn().feed(0), 1);
     due(16, "wipe()", x.wipe(), 250);
     due(16, "wipe()", x.wipe(), 0);
     due(16, "status(8)", x.status(8), 0);
@@ -294,7 +305,7 @@ public final class PromisesTest {
         {"side 5;", "-27"}, {"side 5; ", "-28"}, {"side 5;;side 6", "-27"}, {"side", "-24"}, {"side ", "-25"},
         {"side 05", "1"}, {"side 005", "-25"}, {"side 99999999999999", "-25"}, {"side 6;side 5", "-32"},
         {"side 2", "-25"}, {"side x", "-25"}, {"side ;", "-25"}, {"side 5 6", "-27"}, {"side 5 side 6", "-27"},
-        {"sides 5", "-20"}, {"sid 5", "-20"}, {"Side 5", "-20"}, {"side5;Pond 1", "-26"}, {"5", "-20"},
+        {"sides 5", "-20"}, {"sid 5", "-20"}, {"Side 5", "-20"}, {"hide 5", "-20"}, {"side 8", "-25"}, {"left 0;old 0;doubt 0", "3"}, {"side5;Pond 1", "-26"}, {"5", "-20"},
         {"side 5!", "-26"}, {"side\t5", "-24"}, {"side 5\n", "-26"}, {"side 6;pond 55", "2"},
         {"pond 55;side 6", "-25"}, {"pond 100", "-25"}, {"pond 000", "-25"}, {"pond 00", "1"}, {"pond 9", "-25"},
         {"dry 44", "1"}, {"dry 45", "-24"}, {"pond 3;dry 3;person 0 0 3 0", "3"}, {"pond 3;person 0 0 3 0", "-38"},
@@ -324,6 +335,9 @@ public final class PromisesTest {
     StringBuilder many = new StringBuilder("person 0 0 0 0");
     for (int i = 0; i < 6; i++) many.append(";person 0 0 0 0");
     due(17, "seven more", read(x, many.toString()), 7);
+    due(17, "the last one", read(x, "is 7 1"), 1);
+    due(17, "the last one", x.personOf(7, 4), 1);
+    due(17, "none behind the last one", read(x, "is 8 1"), -23);
     due(17, "no room: its word", read(x, "left 1; person 0 0 0 0"), -28);
     due(17, "no room: its word though what follows is bad", read(x, "person x"), -20);
     due(17, "nothing came", x.status(2), 0);
@@ -428,6 +442,7 @@ public final class PromisesTest {
     due(23, "short: right by 0 is as a clock's hand", x.safe(0, 23, 1, NONE), 2);
     due(23, "short", x.safe(0, 23, 1, 0) * 10 + x.safe(0, 23, 1, 1), 20);
     x.tell(0, 1);
+    due(23, "to the right still it can't be agreed", x.safe(0, 23, 0, NONE), NONE);
     due(23, "short by the other left", x.safe(0, 23, 1, 0) * 10 + x.safe(0, 23, 1, 1), 10);
     x.tell(0, 0);
     due(23, "a pond", x.safe(0, 21, 0, NONE), NONE);
@@ -450,6 +465,19 @@ public final class PromisesTest {
     }
     due(23, "what", x.safe(0, 22, 2, NONE), BAD);
     due(23, "what", x.safe(0, 22, -1, NONE), BAD);
+    x = on("pond 12;person 2 1 22 0;person 5 1 22 0;person 0 1 22 0;person 3 1 22 0;is 3 1");
+    int[] about = {1010, 1010, 1020};
+    for (int person = 0; person < 3; person++) {
+      int told = 0;
+      for (int i = 0; i < 4; i++) told = 10 * told + x.safe(person, 11, 1, i);
+      due(23, "short about the pond", told, about[person]);
+    }
+    due(23, "safe about the pond", x.safe(3, 11, 0, NONE), 4);
+    due(23, "safe about the pond", x.safe(3, 11, 0, 0) * 10 + x.safe(3, 11, 0, 2), 21);
+    x = on("person 5 1 22 0;pond 12;pond 21");
+    // left or right of him there's but one lane, and he can turn by the same sign to but two sides
+    due(23, "dancer", x.safe(0, 13, 1, NONE), 4);
+    due(23, "dancer", x.safe(0, 13, 1, 0) * 1000 + x.safe(0, 13, 1, 1) * 100 + x.safe(0, 13, 1, 2) * 10 + x.safe(0, 13, 1, 3), 2010);
     x = on("side 7;person 0 1 66 0");
     due(23, "six signs at most", x.safe(0, 6, 0, NONE), 6);
     x = on("side 7;person 0 1 66 3;is 0 0");
@@ -513,6 +541,8 @@ public final class PromisesTest {
     due(27, "firstFall(0, 4)", x.firstFall(0, 4), 2);
     due(27, "firstFall(0, 2)", x.firstFall(0, 2), NONE);
     due(27, "none isn't refused", x.status(12), 0);
+    x.put(0, 22, 0);
+    due(27, "the first one is first", x.firstFall(0, 4), 1);
   }
 
   private static void p28to31() {
@@ -522,6 +552,9 @@ public final class PromisesTest {
     due(28, "alike(0, 3, 0)", x.alike(0, 3, 0), 1);
     due(28, "faces are not", x.alike(0, 4, 0), 0);
     due(28, "olden", x.alike(0, 4, 1), 1);
+    x.tell(0, 1);
+    due(28, "by the other left, too", x.alike(0, 4, 0), 0);
+    due(28, "by the other left, too", x.alike(0, 3, 0), 1);
     due(28, "none", x.alike(0, 0, 0), 1);
     row(x, 1, "lolooll");
     due(28, "cells are not", x.alike(1, 6, 0), 0);
@@ -608,6 +641,11 @@ public final class PromisesTest {
     due(35, "n", x.reach(0, 7), BAD);
     due(35, "n", x.reach(0, -1), BAD);
     due(35, "person", x.reach(2, 0), BAD);
+    x.put(0, 0, 0);
+    due(35, "the first cell", x.reach(0, 0), 1);
+    x = on("side 7;left 1;person 0 1 66 0");
+    due(35, "the last cell", x.reach(0, 0), 1);
+    due(35, "the last cell", x.reach(0, 3), 7);
 
     x = on("side 7;pond 36");
     due(36, "right", x.open(33, 1), 2);
@@ -623,6 +661,14 @@ public final class PromisesTest {
     due(36, "faces", x.open(0, -1), BAD);
 
     due(37, "shore()", x.shore(), 3);
+    x.pond(1, true);
+    due(37, "shore()", x.shore(), 6);
+    due(52, "ponds", x.status(5), 2);
+    x.pond(1, false);
+    x.pond(0, true);
+    due(52, "ponds", x.status(5), 2);
+    due(37, "shore()", x.shore(), 5);
+    x.pond(0, false);
     x.pond(35, true);
     due(37, "shore()", x.shore(), 5);
     x.pond(0, true);
@@ -635,6 +681,12 @@ public final class PromisesTest {
     LeftIsAgreedOn x = on("person 0 3 0 0;person 1 2 0 0;person 2 1 0 0;person 3 0 0 0;is 0 1");
     due(38, "bloc(0)", x.bloc(0), 3);
     due(38, "bloc(1)", x.bloc(1), 3);
+    x.isFor(3, 1);
+    x.isFor(2, 1);
+    due(38, "bloc(0)", x.bloc(0), 2);
+    due(38, "bloc(1)", x.bloc(1), 4);
+    x.isFor(2, 0);
+    x.isFor(3, 0);
     due(38, "bloc(2)", x.bloc(2), BAD);
     due(38, "bloc(-1)", x.bloc(-1), BAD);
     due(42, "neither: LEFT", x.carries(), 0);
@@ -665,6 +717,12 @@ public final class PromisesTest {
     x.isFor(2, 1);
     due(42, "carries()", x.carries(), 1);
     due(43, "of several the first", x.turn(1), 2);
+    x = on("person 0 3 0 0;person 0 2 0 0;is 0 1");
+    due(42, "by one", x.carries(), 1);
+    x.isFor(1, 1);
+    x.isFor(0, 0);
+    x.tell(0, 1);
+    due(42, "by one", x.carries(), 0);
     x = new LeftIsAgreedOn();
     due(40, "nobody", x.mightiest(), STUCK);
     x.person(0, 0, 0, 0);
@@ -678,6 +736,8 @@ public final class PromisesTest {
     due(41, "agreed()", x.agreed(), 1 + 4 + 16 + 32 + 64);
     x.tell(0, 0);
     due(41, "agreed()", x.agreed(), 1 + 2 + 4 + 8 + 16 + 32);
+    x = on("person 3 1 22 0;person 3 1 22 0;is 0 1");
+    due(41, "agreed()", x.agreed(), 2);
   }
 
   private static void p44to46() {
@@ -841,17 +901,23 @@ public final class PromisesTest {
       x.show(3, 0);
       x.row(4, 2, 3);
       x.walk(0, 1, 1);
+      x.put(1, 14, 3);
+      x.walk(0, 1, 1);
+      x.show(0, 2);
       x.years(5);
       x.feed('b');
+      due(51, "fallen ahead of it", x.status(7), 2);
       due(51, "status(10)", x.status(10), 5);
       due(51, "back()", x.back(), 1);
-      int[] then = {2, 6, left, old, 7, 1, 2, 1, 1, 99, 4};
+      int[] then = {2, 6, left, old, 7, 1, 2, 1, 1, 99, 3};
       for (int what = 0; what < then.length; what++) due(51, "status(" + what + ")", x.status(what), then[what]);
       due(51, "pond", x.isPond(12) * 10 + x.isPond(13), 10);
       due(51, "the first one", x.personOf(0, 2) * 10 + x.personOf(0, 3), 220);
       due(51, "for", x.personOf(0, 4) * 10 + x.personOf(1, 4), for0 * 10 + for1);
       due(51, "the same numbers", x.holds(1) * 100 + x.holds(3), 1110);
       due(51, "or nothing", x.holds(2), NONE);
+      due(51, "or nothing", x.holds(0), NONE);
+      x.row(0, 0, 1);
       due(51, "rows stay", x.holds(4), 2);
     }
     x.person(1, 1, 44, 2);
