@@ -602,6 +602,14 @@ public final class PromisesTest {
     x.pond(12, true);
     row(x, 2, "o");
     due(31, "fallen", x.ring(2, 1, 0), NONE);
+    x = on("pond 14;pond 40;pond 20;pond 3;person 4 0 21 0");
+    row(x, 0, "orollr");
+    due(31, "twenty times", x.ring(0, 6, 0), 20);
+    x = on("pond 0;pond 34;pond 43;left 1;person 4 0 33 0");
+    row(x, 0, "orol");
+    row(x, 1, "orolorolorol");
+    due(31, "three times seven times", x.ring(1, 12, 0), 7);
+    due(31, "twenty-one are too many", x.ring(0, 4, 0), NONE);
   }
 
   private static void p32to37() {
@@ -946,7 +954,33 @@ public final class PromisesTest {
     due(52, "island() counts as BAD", x.island() * 10 + x.status(12), -198);
   }
 
+  // 8 people: all rows of the people are full
+  private static void fullHouse() {
+    LeftIsAgreedOn x = on("pond 12;pond 30");
+    for (int person = 0; person < 8; person++) x.person(person % 6, 1 + person % 2, person < 4 ? 22 : 48 - person, person % 4);
+    row(x, 0, "olo");
+    row(x, 1, "ro");
+    due(21, "a full house", x.fell(0, 3), 1);
+    due(25, "a full house", x.who(0, 3, 12), 1);
+    due(25, "a full house, nothing told", x.who(0, 0, 22), 15);
+    due(26, "a full house", x.crowd(0, 0, 0) * 10 + x.crowd(0, 0, 1), 224);
+    due(27, "a full house", x.firstFall(0, 3), 0);
+    due(32, "a full house", x.lonely(0, 0), 240);
+    due(38, "a full house", x.bloc(0), 12);
+    due(40, "a full house", x.mightiest(), 1);
+    due(41, "a full house", x.agreed(), 255);
+    due(42, "a full house", x.carries(), 0);
+    due(43, "a full house", x.turn(0), 4);
+    due(43, "a full house", x.turn(1), 2 + 8 + 32 + 1);
+    due(18, "a full house", x.personOf(7, 1), 2);
+    due(44, "a full house", x.meet(0, 3, 7, 1, 2, 6), NONE);
+    due(48, "a full house", x.years(60), x.status(2));
+    due(50, "a full house", x.image() + x.back(), 2);
+    due(52, "a full house", x.status(0), 8);
+  }
+
   public static void main(String[] args) {
+    fullHouse();
     p1to8();
     p9to14();
     p15to17();
