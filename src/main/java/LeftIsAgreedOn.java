@@ -291,10 +291,7 @@ public final class LeftIsAgreedOn {
     // ---- tellings
 
     public int comes(int s, int n, int person, int what) {
-        if (!isTold(s, n) || !now.isOne(person) || !isWithin(what, 0, 2)) {
-            return refuse(BAD);
-        }
-        int fault = tellingFault(s, n);
+        int fault = tellingFault(s, n, now.isOne(person) && isWithin(what, 0, 2));
         if (fault != FINE) {
             return refuse(fault);
         }
@@ -307,7 +304,7 @@ public final class LeftIsAgreedOn {
     }
 
     public int fell(int s, int n) {
-        int fault = isTold(s, n) ? tellingFault(s, n) : BAD;
+        int fault = tellingFault(s, n, true);
         if (fault != FINE) {
             return refuse(fault);
         }
@@ -321,10 +318,7 @@ public final class LeftIsAgreedOn {
     }
 
     public int ponds(int s, int n, int person) {
-        if (!isTold(s, n) || !now.isOne(person)) {
-            return refuse(BAD);
-        }
-        int fault = tellingFault(s, n);
+        int fault = tellingFault(s, n, now.isOne(person));
         if (fault != FINE) {
             return refuse(fault);
         }
@@ -355,10 +349,7 @@ public final class LeftIsAgreedOn {
     }
 
     public int kinds(int s, int n, int person, int cell, int what) {
-        if (!isTold(s, n) || !now.isOne(person) || !now.isCell(cell) || !isWithin(what, 0, 1)) {
-            return refuse(BAD);
-        }
-        int fault = tellingFault(s, n);
+        int fault = tellingFault(s, n, now.isOne(person) && now.isCell(cell) && isWithin(what, 0, 1));
         if (fault != FINE) {
             return refuse(fault);
         }
@@ -379,10 +370,7 @@ public final class LeftIsAgreedOn {
     }
 
     public int who(int s, int n, int cell) {
-        if (!isTold(s, n) || !now.isCell(cell)) {
-            return refuse(BAD);
-        }
-        int fault = tellingFault(s, n);
+        int fault = tellingFault(s, n, now.isCell(cell));
         if (fault != FINE) {
             return refuse(fault);
         }
@@ -397,10 +385,7 @@ public final class LeftIsAgreedOn {
     }
 
     public int crowd(int s, int n, int what) {
-        if (!isTold(s, n) || !isWithin(what, 0, 1)) {
-            return refuse(BAD);
-        }
-        int fault = tellingFault(s, n);
+        int fault = tellingFault(s, n, isWithin(what, 0, 1));
         if (fault != FINE) {
             return refuse(fault);
         }
@@ -421,7 +406,7 @@ public final class LeftIsAgreedOn {
     }
 
     public int firstFall(int s, int n) {
-        int fault = isTold(s, n) ? tellingFault(s, n) : BAD;
+        int fault = tellingFault(s, n, true);
         if (fault != FINE) {
             return refuse(fault);
         }
@@ -437,10 +422,7 @@ public final class LeftIsAgreedOn {
     }
 
     public int alike(int s, int n, int person) {
-        if (!isTold(s, n) || !now.isOne(person)) {
-            return refuse(BAD);
-        }
-        int fault = tellingFault(s, n);
+        int fault = tellingFault(s, n, now.isOne(person));
         if (fault != FINE) {
             return refuse(fault);
         }
@@ -454,10 +436,7 @@ public final class LeftIsAgreedOn {
     }
 
     public int differ(int s, int n, int person, int other) {
-        if (!isTold(s, n) || !arePair(person, other)) {
-            return refuse(BAD);
-        }
-        int fault = tellingFault(s, n);
+        int fault = tellingFault(s, n, arePair(person, other));
         if (fault != FINE) {
             return refuse(fault);
         }
@@ -476,10 +455,7 @@ public final class LeftIsAgreedOn {
     }
 
     public int again(int s, int n, int person, int times) {
-        if (!isTold(s, n) || !now.isOne(person) || !isWithin(times, 0, MOST_TIMES)) {
-            return refuse(BAD);
-        }
-        int fault = tellingFault(s, n);
+        int fault = tellingFault(s, n, now.isOne(person) && isWithin(times, 0, MOST_TIMES));
         if (fault != FINE) {
             return refuse(fault);
         }
@@ -491,10 +467,7 @@ public final class LeftIsAgreedOn {
     }
 
     public int ring(int s, int n, int person) {
-        if (!isTold(s, n) || !now.isOne(person)) {
-            return refuse(BAD);
-        }
-        int fault = tellingFault(s, n);
+        int fault = tellingFault(s, n, now.isOne(person));
         if (fault != FINE) {
             return refuse(fault);
         }
@@ -509,7 +482,7 @@ public final class LeftIsAgreedOn {
     }
 
     public int lonely(int s, int n) {
-        int fault = isTold(s, n) ? tellingFault(s, n) : BAD;
+        int fault = tellingFault(s, n, true);
         if (fault != FINE) {
             return refuse(fault);
         }
@@ -524,10 +497,7 @@ public final class LeftIsAgreedOn {
     }
 
     public int idle(int s, int n, int person) {
-        if (!isTold(s, n) || !now.isOne(person)) {
-            return refuse(BAD);
-        }
-        int fault = tellingFault(s, n);
+        int fault = tellingFault(s, n, now.isOne(person));
         if (fault != FINE) {
             return refuse(fault);
         }
@@ -664,10 +634,7 @@ public final class LeftIsAgreedOn {
     // ---- in truth
 
     public int walk(int s, int n, int person) {
-        if (!isTold(s, n) || !now.isOne(person)) {
-            return refuse(BAD);
-        }
-        int fault = tellingFault(s, n);
+        int fault = tellingFault(s, n, now.isOne(person));
         if (fault != FINE) {
             return refuse(fault);
         }
@@ -784,8 +751,8 @@ public final class LeftIsAgreedOn {
         return shelves.held(s) == NONE || shelves.held(t) == NONE ? NOTHING : FINE;
     }
 
-    private int tellingFault(int s, int n) {
-        return tellingsFault(s, n, s, 0);
+    private int tellingFault(int s, int n, boolean areOthersFine) {
+        return isTold(s, n) && areOthersFine ? tellingsFault(s, n, s, 0) : BAD;
     }
 
     private int tellingsFault(int s, int n, int t, int m) {
