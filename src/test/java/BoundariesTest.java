@@ -1,0 +1,17 @@
+// Each sentence of the document that names a boundary case (too small, too large, empty, full, a
+// wrap-around, a refused call), with calls of its own: see ../boundaries. At the end it is looked
+// whether each such sentence was quoted, and each refusal of each promise met.
+public final class BoundariesTest {
+  public static void main(String[] args) {
+    TermsBoundaries.run();
+    TapeBoundaries.run();
+    TellingBoundaries.run();
+    ShelfBoundaries.run();
+    IslandBoundaries.run();
+    AskBoundaries.run();
+    VoteBoundaries.run();
+    MeetBoundaries.run();
+    TruthBoundaries.run();
+    System.exit(Boundary.end());
+  }
+}
