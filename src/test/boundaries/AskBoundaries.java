@@ -252,6 +252,13 @@ final class AskBoundaries extends Boundary {
     LeftIsAgreedOn x = on("pond 2;person 0 0 42 0;person 0 0 22 0;person 0 0 32 0;person 0 0 44 1", "0oooo");
     due(x.firstFall(0, 4), 1);
     due(x.firstFall(0, 1), NONE);
+    // the first of the PEOPLE alone; the last one alone
+    LeftIsAgreedOn y = on("pond 2;person 0 0 22 0;person 0 0 44 1;person 0 0 12 2", "0oooo");
+    due(y.firstFall(0, 4), 1);
+    y.put(0, 44, 1);
+    due(y.firstFall(0, 4), NONE);
+    y.put(2, 12, 0);
+    due(y.firstFall(0, 4), 0);
     x.row(1, 0, 40);
     for (int i = 0; i < 38; i++) x.set(1, i, 3);
     due(x.firstFall(1, 39), NONE);

@@ -7,7 +7,6 @@ import java.util.BitSet;
 import java.util.List;
 import java.util.Map;
 import java.util.TreeMap;
-import java.util.regex.Matcher;
 import java.util.regex.Pattern;
 
 // What the tests of boundary cases share: the sentence of the document that is looked at, objects
@@ -79,6 +78,11 @@ abstract class Boundary {
   static void due(long got, long want) {
     asked++;
     if (got != want) fail("answered " + got + ", due is " + want);
+  }
+
+  static void due(String got, String want) {
+    asked++;
+    if (!got.equals(want)) fail("answered " + got + ", due is " + want);
   }
 
   // the call answers so on an object that was made so, and changes nothing, nor is it refused
@@ -192,23 +196,25 @@ abstract class Boundary {
   // ---- whether all boundary cases were looked at
 
   static int end() {
-    everyBoundaryIsQuoted();
+    everySentenceIsQuoted();
     everyRefusalIsMet();
     System.out.println(wrong == 0 ? "all " + asked + " answers are as due" : wrong + " of " + asked + " are not as due");
     return wrong == 0 ? 0 : 1;
   }
 
-  private static void everyBoundaryIsQuoted() {
-    String edges = "\\d+ to \\d+|\\bat most\\b|\\bat first\\b|\\b(BAD|OTHER|NOTHING|STUCK|FULL|NONE)\\b"
-        + "|isn't refused|\\bempty\\b|wrapping|\\(0, 1\\)|or nothing|first time|of several|no room|too early"
-        + "|if there is one|if neither|it can't be|on \\(|half";
-    Matcher m = Pattern.compile(edges).matcher(DOC);
-    m.region(DOC.indexOf("## Terms"), DOC.indexOf("## Not promised"));
-    while (m.find()) {
-      if (QUOTED.get(m.start(), m.end()).cardinality() < m.end() - m.start()) {
-        int line = DOC.lastIndexOf('\n', m.start()) + 1;
-        wrong++;
-        System.out.println("no test looks at '" + m.group() + "' in: " + DOC.substring(line, DOC.indexOf('\n', line)));
+  // of each line of the terms and the promises, but headings and how a call is written
+  private static void everySentenceIsQuoted() {
+    int end = DOC.indexOf("## Not promised");
+    for (int line = DOC.indexOf("## Terms"); line < end; line = DOC.indexOf('\n', line) + 1) {
+      int behind = DOC.indexOf('\n', line);
+      boolean isHeading = DOC.startsWith("#", line) || DOC.startsWith("====", line) || DOC.startsWith("```", line);
+      int told = DOC.startsWith("`", line) ? DOC.indexOf("`: ", line) + 3 : line;
+      for (int i = told; i < behind && !isHeading; i++) {
+        if (Character.isLetterOrDigit(DOC.charAt(i)) && !QUOTED.get(i)) {
+          wrong++;
+          System.out.println("no test looks at: " + DOC.substring(i, behind));
+          break;
+        }
       }
     }
   }

@@ -251,8 +251,8 @@ final class IslandBoundaries extends Boundary {
   private static void shore() {
     promise(37, "How many CELLS (no POND) have a POND beside them.");
     due(fresh().shore(), 0);
-    int[][] ponds = {{0}, {4}, {44}, {40}, {2}, {22}, {22, 23}, {22, 24}, {22, 11}, {0, 4}, {0, 1, 10, 11}, {11, 13, 31, 33}};
-    int[] shores = {2, 2, 2, 2, 3, 4, 6, 6, 6, 4, 4, 12};
+    int[][] ponds = {{0}, {1}, {10}, {34}, {43}, {4}, {44}, {40}, {2}, {22}, {22, 23}, {22, 24}, {22, 11}, {0, 4}, {0, 1, 10, 11}, {11, 13, 31, 33}};
+    int[] shores = {2, 3, 3, 3, 3, 2, 2, 2, 3, 4, 6, 6, 6, 4, 4, 12};
     for (int k = 0; k < ponds.length; k++) {
       LeftIsAgreedOn x = fresh();
       for (int cell : ponds[k]) x.pond(cell, true);

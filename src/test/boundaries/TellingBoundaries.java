@@ -1,6 +1,7 @@
 // The boundary cases that "TELLINGS", "WHAT COMES OF IT" and the REFUSALS name under Terms.
 final class TellingBoundaries extends Boundary {
   static void run() {
+    signs();
     edges();
     falls();
     quarters();
@@ -32,8 +33,24 @@ final class TellingBoundaries extends Boundary {
     row(x, 7, signs);
     StringBuilder got = new StringBuilder();
     for (int n = 1; n <= signs.length(); n++) got.append(x.comes(7, n, person, 1));
-    due(got.toString().equals(faces) ? 1 : 0, 1);
-    if (!got.toString().equals(faces)) System.out.println("  " + signs + ": " + got + ", due is " + faces);
+    due(signs + ": " + got, signs + ": " + faces);
+  }
+
+  private static void signs() {
+    terms("A TELLING is a row of SIGNS: 0 on, 1 left, 2 right, 3 wait.");
+    LeftIsAgreedOn x = on("person 0 0 22 0");
+    x.row(0, 3, 1);
+    int[] comes = {120, 223, 221, 220};
+    for (int sign = 0; sign < 4; sign++) {
+      x.set(0, 0, sign);
+      due(x.comes(0, 1, 0, 0) * 10 + x.comes(0, 1, 0, 1), comes[sign]);
+    }
+    for (long v : new long[] {-1, 4, 5, 255, 256, 1L << 32, (1L << 32) + 3, Long.MIN_VALUE, Long.MAX_VALUE}) {
+      x.set(0, 0, v);
+      due(x.comes(0, 1, 0, 0), STUCK);
+      // no element at all is a TELLING, too
+      due(x.comes(0, 0, 0, 0), 22);
+    }
   }
 
   private static void edges() {
@@ -129,7 +146,7 @@ final class TellingBoundaries extends Boundary {
   }
 
   private static void voter() {
-    terms("VOTER: LEFT. OLDEN: OLD. STUBBORN: what he is FOR.");
+    terms("What one goes by at a turn (a left or right): VOTER: LEFT. OLDEN: OLD. STUBBORN: what he is FOR.");
     for (int bits = 0; bits < 8; bits++) {
       int left = bits & 1, old = bits >> 1 & 1, is = bits >> 2;
       LeftIsAgreedOn x = on("person 0 0 22 0;person 1 0 22 0;person 3 0 22 0;is 2 " + is + ";left " + left + ";old " + old);
@@ -225,7 +242,7 @@ final class TellingBoundaries extends Boundary {
   }
 
   private static void nothingIsChanged() {
-    terms("==== 3. WHAT COMES OF IT (nothing is changed)");
+    terms("WHAT COMES OF IT (nothing is changed)");
     LeftIsAgreedOn x = some();
     for (int person = 0; person < 3; person++) {
       for (int what = 0; what < 3; what++) x.comes(7, 40, person, what);
